@@ -952,7 +952,7 @@ public final class EdgeVerses {
 
         private final boolean[] usable = new boolean[MAX_WORDS];
         private final int[] costs = new int[MAX_BEATS + 1];
-        private final int[] choices = new int[MAX_BEATS + 1];
+        private final int[] choices = new int[MAX_BEATS];
         private final int[] ways = new int[MAX_BEATS + 1];
         private final int[] row = new int[MAX_BEATS];
         private int length;
@@ -1002,16 +1002,15 @@ public final class EdgeVerses {
             poem.putLine(line, row, length);
         }
 
+        /**
+         * Whether the row comes before that of another search, which asked for a first word that
+         * begins right where this one asked for a wrong one: so the first words differ.
+         */
         boolean comesBefore(LineSearch other) {
             if (costs[0] != other.costs[0]) {
                 return costs[0] < other.costs[0];
             }
-            for (int place = 0; place < length; place++) {
-                if (wordIn(place) != other.wordIn(place)) {
-                    return wordIn(place) < other.wordIn(place);
-                }
-            }
-            return false;
+            return wordIn(0) < other.wordIn(0);
         }
 
         private void prepare(State state, int line, boolean wantFirst, boolean wantLast) {
@@ -1038,7 +1037,6 @@ public final class EdgeVerses {
 
         private void chooseAt(State state, int beat) {
             costs[beat] = NO_ROW;
-            choices[beat] = NOT_FOUND;
             for (int word = 0; word < state.words.size(); word++) {
                 if (canStand(state, word, beat)) {
                     int cost = costFrom(state, word, beat);

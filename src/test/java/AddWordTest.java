@@ -175,6 +175,10 @@ public final class AddWordTest {
         }
         CHECK.due("find with a character that folds to a", EdgeVerses.NONE,
                 Verses.find(verses, "" + (char) ('a' + 256)));
+        CHECK.due("find nine letters whose ninth is the first one", EdgeVerses.NONE,
+                Verses.find(verses, "abcdefgha"));
+        CHECK.due("find in the middle of other characters", EdgeVerses.NONE,
+                Verses.find(Verses.withWords("aa"), (char) ('a' + 256) + "a"));
         verses.removeWord(0);
         CHECK.due("find a removed word", EdgeVerses.NONE, Verses.find(verses, "over"));
         CHECK.due("find a word that moved up", 0, Verses.find(verses, "a"));

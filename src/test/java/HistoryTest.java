@@ -7,6 +7,8 @@ public final class HistoryTest {
         oldestStateIsDropped();
         undoneStatesAreGone();
         undoBringsBackAll();
+        fullStoreIsBroughtBack();
+        longestPoemIsBroughtBack();
         actsAfterUndo();
         keepAnswers();
         restoreAnswers();
@@ -73,6 +75,42 @@ public final class HistoryTest {
         CHECK.due("undo()", 1, verses.undo());
         CHECK.due("undo()", 0, verses.undo());
         CHECK.due("told then", before, Verses.told(verses));
+    }
+
+    private static void fullStoreIsBroughtBack() {
+        EdgeVerses verses = new EdgeVerses();
+        for (int word = 0; word < 39; word++) {
+            Verses.addWord(verses, "x" + (char) ('a' + word / 26) + (char) ('a' + word % 26));
+        }
+        Verses.addWord(verses, "'bc-d*7");
+        verses.removeWord(39);
+        Verses.addWord(verses, "p-'q-'r-st*3");
+        verses.undo();
+        CHECK.due("words", 39, verses.count(0));
+        verses.undo();
+        int[] due = {3, 2, 1, 7, 0, 'b', 'd'};
+        for (int what = 0; what < due.length; what++) {
+            CHECK.due("word(39, " + what + ") when it is back", due[what], verses.word(39, what));
+        }
+    }
+
+    private static void longestPoemIsBroughtBack() {
+        EdgeVerses verses = Verses.withWords("a*9", "b*9");
+        verses.setMetre(12, 0);
+        Verses.setEdges(verses, "aaaaaaab/aaaaaaab");
+        CHECK.due("make()", 8, verses.make());
+        Verses.setEdges(verses, "aaaaaaaa/aaaaaaaa");
+        CHECK.due("make() of other lines", 8, verses.make());
+        verses.undo();
+        CHECK.due("line(7, 0) when it is empty again", 0, verses.line(7, 0));
+        verses.undo();
+        int[] due = {12, 0, 12, 'b', 'b'};
+        for (int what = 0; what < due.length; what++) {
+            CHECK.due("line(7, " + what + ") when it is back", due[what], verses.line(7, what));
+        }
+        CHECK.due("wordAt(7, 0)", 1, verses.wordAt(7, 0));
+        CHECK.due("wordAt(7, 10)", 0, verses.wordAt(7, 10));
+        CHECK.due("wordAt(7, 11)", 1, verses.wordAt(7, 11));
     }
 
     private static void actsAfterUndo() {

@@ -48,6 +48,7 @@ public final class NearMissTest {
         CHECK.due("last wrong has fewer bends and more words", "ax c c",
                 missed("'...", "a/b", "c", "y-y-b", "'a-x"));
         CHECK.due("first wrong has the lower number", "b b", missed("..", "a/b", "b", "a"));
+        CHECK.due("first wrong has the lower first number", "c xb", missed("..", "a/b", "c", "a", "xb"));
         CHECK.due("last wrong has the lower number", "a a", missed("..", "a/b", "a", "b"));
     }
 

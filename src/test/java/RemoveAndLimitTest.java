@@ -37,6 +37,19 @@ public final class RemoveAndLimitTest {
         CHECK.due("strong ones of word 1", 2, verses.word(1, 2));
         CHECK.due("limit of word 2", 4, verses.word(2, 3));
         CHECK.due("word 3", EdgeVerses.UNKNOWN, verses.word(3, 0));
+        allPropertiesMoveUp();
+    }
+
+    private static void allPropertiesMoveUp() {
+        EdgeVerses verses = Verses.withWords("a", "b-'c-d*2", "'wxyz*9", "p-'q-'r-st*4");
+        int[][] due = {{3, 3, 2, 2, 0, 'b', 'd'}, {4, 1, 1, 9, 0, 'w', 'z'}, {5, 4, 6, 4, 0, 'p', 't'}};
+        verses.removeWord(0);
+        for (int word = 0; word < due.length; word++) {
+            for (int what = 0; what < 7; what++) {
+                String call = "word(" + word + ", " + what + ") that moved up";
+                CHECK.due(call, due[word][what], verses.word(word, what));
+            }
+        }
     }
 
     /** Three lines of two beats: "a a", "b a" and "cc". */

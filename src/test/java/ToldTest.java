@@ -300,6 +300,10 @@ public final class ToldTest {
         for (int what = 0; what < due.length; what++) {
             CHECK.due("count(" + what + ")", due[what], verses.count(what));
         }
+        verses.setLimit(1, 3);
+        CHECK.due("words that are used up", 2, verses.count(7));
+        verses.setLimit(1, 2);
+        CHECK.due("words that are used up, b too", 3, verses.count(7));
     }
 
     private static void countErrors() {
