@@ -34,6 +34,15 @@ final class Verses {
         return verses;
     }
 
+    /** A new object with 40 words, in few calls: "a" to "z", and then "aa" to "an". */
+    static EdgeVerses withFullStore() {
+        EdgeVerses verses = new EdgeVerses();
+        for (int word = 0; word < 40; word++) {
+            addWord(verses, (word < 26 ? "" : "a") + (char) ('a' + word % 26));
+        }
+        return verses;
+    }
+
     /** The metre as a text of signs: "'" for a strong beat, "." for a weak one. */
     static int setMetre(EdgeVerses verses, String beats) {
         int strong = 0;
