@@ -15,6 +15,7 @@ public final class HistoryBoundaryTest {
         noStateButOfActs();
         eachActRecordsTheStateBeforeIt();
         eachActIsUndone();
+        fullestState();
         twoSlots();
         slotsAreEmptyAtFirst();
         inPlaceOfWhatIsThere();
@@ -191,6 +192,60 @@ public final class HistoryBoundaryTest {
         CHECK.due("told after " + name, false, before.equals(Verses.told(verses)));
         verses.undo();
         CHECK.due("told when " + name + " is undone", before, Verses.told(verses));
+    }
+
+    /** 40 words, eight lines of twelve words; the last ones differ from the others. */
+    private static EdgeVerses fullest() {
+        EdgeVerses verses = Verses.withFullStore();
+        verses.removeWord(39);
+        verses.removeWord(1);
+        Verses.addWord(verses, "y-'xyx-y-x*7");
+        Verses.addWord(verses, "'b*9");
+        verses.setLimit(0, 9);
+        verses.setMetre(12, 2);
+        Verses.setEdges(verses, "aaaaaaab/aaaaaaab");
+        CHECK.due("lines of the fullest state", 8, verses.make());
+        return verses;
+    }
+
+    private static String fullestTold(EdgeVerses verses) {
+        StringBuilder told = new StringBuilder();
+        for (int word = 37; word <= 40; word++) {
+            for (int what = 0; what <= 7; what++) {
+                told.append(verses.word(word, what)).append(' ');
+            }
+        }
+        for (int line = 6; line <= 8; line++) {
+            for (int what = 0; what <= 5; what++) {
+                told.append(verses.line(line, what)).append(' ');
+            }
+            for (int place = 0; place <= 12; place++) {
+                told.append(verses.wordAt(line, place)).append(' ');
+            }
+        }
+        for (int what = 0; what < 10; what++) {
+            told.append(verses.count(what)).append(' ');
+        }
+        return told.toString();
+    }
+
+    /** "A state is everything": the 40th word, the eighth line and its twelfth word, too. */
+    private static void fullestState() {
+        String before = fullestTold(fullest());
+        for (int slot = 0; slot < 2; slot++) {
+            EdgeVerses verses = fullest();
+            verses.keep(slot);
+            verses.removeWord(39);
+            Verses.addWord(verses, "'qq*3");
+            Verses.setEdges(verses, "aaaaaaaa/aaaaaaaa");
+            verses.make();
+            CHECK.due("restore(" + slot + ")", 40, verses.restore(slot));
+            CHECK.due("the fullest state, restored", before, fullestTold(verses));
+            for (int act = 0; act < 5; act++) {
+                verses.undo();
+            }
+            CHECK.due("the fullest state, undone", before, fullestTold(verses));
+        }
     }
 
     /** "There are two slots"; keep and restore: "slot: 0 or 1", "UNKNOWN". */

@@ -388,6 +388,8 @@ public final class LinesBoundaryTest {
                 poem(".'..", "a/b", "'a", "'c-c-c", "a-'x", "y"));
         missed("fewer words, that begin otherwise", "cccb", poem("....", "a/b", "a", "c-c-c-b"));
         missed("fewer words, that end otherwise", "accc", poem("....", "a/b", "b", "a-c-c-c"));
+        missed("the lower first number, though the second one is higher", "c xb",
+                poem("..", "a/b", "c", "a", "xb"));
         String rest = " a".repeat(10);
         missed("the last word ends otherwise, and the first number is lower", "a" + rest + " c",
                 poem("............", "a/a", "a", "c"));

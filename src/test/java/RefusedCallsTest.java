@@ -16,6 +16,8 @@ public final class RefusedCallsTest {
         newObject(twins("new object", EdgeVerses::new));
         poem(twins("full history", RefusedCallsTest::fullHistory));
         poem(twins("short history", RefusedCallsTest::shortHistory));
+        noStateLeft();
+        tellingCalls();
         texts();
         fullStore();
         fullText();
@@ -119,6 +121,44 @@ public final class RefusedCallsTest {
         twins.unchanged("letterAt(0, 1)", EdgeVerses.NONE, verses -> verses.letterAt(0, 1));
     }
 
+    /** The history is empty, since the states of the acts that made the poem were dropped. */
+    private static EdgeVerses emptyHistory() {
+        EdgeVerses verses = fullHistory();
+        for (int act = 0; act < 5; act++) {
+            verses.setMetre(2 + act, 0);
+        }
+        for (int left = 4; left >= 0; left--) {
+            CHECK.due("undo()", left, verses.undo());
+        }
+        CHECK.due("lines that are made", 2, verses.count(2));
+        return verses;
+    }
+
+    private static void noStateLeft() {
+        Twins twins = twins("empty history", RefusedCallsTest::emptyHistory);
+        twins.unchanged("undo()", EdgeVerses.NONE, EdgeVerses::undo);
+        twins.unchanged("make()", EdgeVerses.NONE, EdgeVerses::make);
+        twins.unchanged("clearLine(2)", EdgeVerses.NONE, verses -> verses.clearLine(2));
+        twins.unchanged("setLimit(0, 1)", EdgeVerses.NOT_POSSIBLE, verses -> verses.setLimit(0, 1));
+        twins.unchanged("removeWord(3)", EdgeVerses.UNKNOWN, verses -> verses.removeWord(3));
+        twins.unchanged("setEdges()", EdgeVerses.NOT_POSSIBLE, EdgeVerses::setEdges);
+    }
+
+    /** Calls that tell without an error change nothing either: those that search above all. */
+    private static void tellingCalls() {
+        Twins twins = twins("short history", RefusedCallsTest::shortHistory);
+        twins.unchanged("line(0, 5)", 2, verses -> verses.line(0, 5));
+        twins.unchanged("line(2, 5)", 0, verses -> verses.line(2, 5));
+        twins.unchanged("nearMiss(0, 0)", 2, verses -> verses.nearMiss(0, 0));
+        twins.unchanged("word(2, 7)", 1, verses -> verses.word(2, 7));
+        twins.unchanged("letterAt(2, 1)", 'd', verses -> verses.letterAt(2, 1));
+        twins.unchanged("wordAt(1, 2)", 0, verses -> verses.wordAt(1, 2));
+        twins.unchanged("poemAt(0)", 'a', verses -> verses.poemAt(0));
+        twins.unchanged("count(9)", 13, verses -> verses.count(9));
+        Twins word = twins("text cd", () -> Verses.typed(shortHistory(), "cd"));
+        word.unchanged("find()", 2, EdgeVerses::find);
+    }
+
     /** Texts that addWord() refuses, and what they leave of a word, of its stresses and its limit. */
     private static void texts() {
         String[] texts = {"", "'", "x-", "x*", "x*0", "x*2y", "'xyzxyzxyz", "x-y-z-'x-y", "x/y",
@@ -143,13 +183,20 @@ public final class RefusedCallsTest {
         }
     }
 
+    /** 40 words, of which the poem uses one. */
+    private static EdgeVerses fullStoreAndText(String text) {
+        EdgeVerses verses = Verses.withFullStore();
+        CHECK.due("make()", 1, verses.make());
+        return Verses.typed(verses, text);
+    }
+
     private static void fullStore() {
-        Twins twins = twins("full store", () -> Verses.typed(Verses.withFullStore(), "'zz-z*9"));
+        Twins twins = twins("full store", () -> fullStoreAndText("'zz-z*9"));
         twins.unchanged("addWord()", EdgeVerses.FULL, EdgeVerses::addWord);
         twins.unchanged("removeWord(40)", EdgeVerses.UNKNOWN, verses -> verses.removeWord(40));
         twins.unchanged("word(40, 0)", EdgeVerses.UNKNOWN, verses -> verses.word(40, 0));
         twins.unchanged("find()", EdgeVerses.NONE, EdgeVerses::find);
-        Twins there = twins("full store, a word of it", () -> Verses.typed(Verses.withFullStore(), "'a-n"));
+        Twins there = twins("full store, a word of it", () -> fullStoreAndText("'a-n"));
         there.unchanged("addWord()", EdgeVerses.NOT_POSSIBLE, EdgeVerses::addWord);
     }
 

@@ -265,6 +265,8 @@ public final class ToldBoundaryTest {
             CHECK.due("poemAt(" + (last + index) + ")", (int) line.charAt(index), verses.poemAt(last + index));
         }
         CHECK.due("poemAt(864)", EdgeVerses.NONE, verses.poemAt(864));
+        CHECK.due("words of line 7", 12, verses.line(7, 0));
+        CHECK.due("letters of line 7", 96, verses.line(7, 2));
     }
 
     /** poemAt: "BAD_VALUE if index is negative; NONE if it is not so long." */

@@ -84,10 +84,23 @@ public final class WordsBoundaryTest {
                         (int) LETTERS.charAt(before % 26), verses.word(word, 6));
             }
         }
+        propertiesBehindARemovedOne();
         EdgeVerses one = Verses.withWords("a");
         CHECK.due("remove the only word", 0, one.removeWord(0));
         CHECK.due("words then", 0, one.count(0));
         CHECK.due("the next word", 0, Verses.addWord(one, "b"));
+    }
+
+    private static void propertiesBehindARemovedOne() {
+        EdgeVerses verses = Verses.withWords("'z", "a-'b*2", "c", "d-e-'f-g*9");
+        int[][] due = {{2, 2, 2, 2, 0, 'a', 'b'}, {1, 1, 0, 1, 0, 'c', 'c'}, {4, 4, 4, 9, 0, 'd', 'g'}};
+        verses.removeWord(0);
+        for (int word = 0; word < 3; word++) {
+            for (int what = 0; what < 7; what++) {
+                CHECK.due("word(" + word + ", " + what + ") that was the next one", due[word][what],
+                        verses.word(word, what));
+            }
+        }
     }
 
     /** The same sentence: those ahead of it keep their numbers, in the lines, too. */
@@ -486,6 +499,12 @@ public final class WordsBoundaryTest {
         for (String other : others) {
             CHECK.due("find " + other, EdgeVerses.NONE, Verses.find(verses, other));
         }
+        // The ninth letter is not to fall on the first one, nor a sign above 255 on a letter.
+        CHECK.due("find abcdefgha", EdgeVerses.NONE, Verses.find(verses, "abcdefgha"));
+        char above = 'a' + 256;
+        CHECK.due("find a sign above a letter", EdgeVerses.NONE, Verses.find(verses, "" + above));
+        CHECK.due("find it ahead of a letter", EdgeVerses.NONE,
+                Verses.find(Verses.withWords("aa"), above + "a"));
         CHECK.due("find in an empty store", EdgeVerses.NONE, Verses.find(new EdgeVerses(), "a"));
         EdgeVerses full = Verses.withFullStore();
         CHECK.due("find the first one of 40", 0, Verses.find(full, "a"));
