@@ -15,6 +15,7 @@ public final class LinesBoundaryTest {
         fewerWordsThen();
         firstDifferenceAtEachPlace();
         noRow();
+        metreThatBecomesShorterAndLonger();
         lineThatIsFoundAgain();
         linesThatAreNone();
         makeWithNothingToMake();
@@ -168,6 +169,39 @@ public final class LinesBoundaryTest {
         verses.makeLine(1);
         CHECK.due("what is left is not enough", EdgeVerses.NONE, verses.makeLine(0));
         CHECK.due("the lines stay as they are", "/a a/", Verses.poem(verses));
+    }
+
+    /** "the metre": of 2 to 12 beats now; nothing of a search in another metre is left. */
+    private static void metreThatBecomesShorterAndLonger() {
+        for (int longer = 3; longer <= 12; longer++) {
+            for (int shorter = 2; shorter < longer; shorter++) {
+                EdgeVerses verses = poem(".".repeat(longer), "a/b", "a-'c", "'b", "c", "a", "d-d*2");
+                String call = longer + " beats, then " + shorter;
+                CHECK.due(call + ": longer line", true, verses.makeLine(0) > 1);
+                CHECK.due(call + ": longer near miss", true, verses.nearMiss(0, 0) >= 0);
+                verses.setMetre(longer, (1 << longer) - 1);
+                verses.makeLine(0);
+                verses.nearMiss(0, 0);
+                sameAsInANewObject(call, verses, shorter);
+                sameAsInANewObject(call + ", then " + longer, verses, longer);
+            }
+        }
+        EdgeVerses none = poem("....", "a/b", "a-x-b", "x-x-b");
+        CHECK.due("no line of four beats", EdgeVerses.NONE, none.makeLine(0));
+        CHECK.due("no near miss of four beats", EdgeVerses.NONE, none.nearMiss(0, 0));
+        none.setMetre(3, 0);
+        CHECK.due("a line of three beats", 1, none.makeLine(0));
+        CHECK.due("a near miss of three beats", 1, none.nearMiss(0, 0));
+        CHECK.due("rows of three beats", 1, none.line(0, 5));
+    }
+
+    private static void sameAsInANewObject(String call, EdgeVerses verses, int beats) {
+        EdgeVerses fresh = poem(".".repeat(beats), "a/b", "a-'c", "'b", "c", "a", "d-d*2");
+        verses.setMetre(beats, 0);
+        CHECK.due(call + ": near miss", Verses.nearMiss(fresh, 0), Verses.nearMiss(verses, 0));
+        CHECK.due(call + ": rows", fresh.line(0, 5), verses.line(0, 5));
+        CHECK.due(call + ": makeLine(0)", fresh.makeLine(0), verses.makeLine(0));
+        CHECK.due(call + ": poem", Verses.poem(fresh), Verses.poem(verses));
     }
 
     /** makeLine: "This is an act (also if the same words are found again)." */
