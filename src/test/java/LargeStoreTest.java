@@ -46,7 +46,7 @@ public final class LargeStoreTest {
     }
 
     private void play() {
-        addWords(20 + below(21), 1 + below(4));
+        addWords(below(2) == 0 ? 40 : 3 + below(10), 1 + below(4));
         setMetre(9 + below(4));
         setEdges(4 + below(5));
         linesAsTold();

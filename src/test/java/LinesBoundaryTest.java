@@ -117,6 +117,14 @@ public final class LinesBoundaryTest {
                 poem(".'..........", "a/y", "'a", "'p-q-q-q", "y", "a-'x"));
         found("one bend and nine words, where that is all", "a pqqq" + " y".repeat(7),
                 poem(".'..........", "a/y", "'a", "'p-q-q-q", "y"));
+        // The two rows have no place in common between two words: a bend can't outweigh more words.
+        String[] words = {"a", "'ax-x", "p-p-p-'p", "y", "y-y-y"};
+        found("no bend and nine words, ahead of one and four", "axx a a axx a a axx a y",
+                poem("'...'...'...", "a/y", words));
+        missed("no bend and nine words, ahead of one and four", "axx a a axx a a axx a a",
+                poem("'...'...'...", "a/z", words));
+        found("one bend and four words, where that is all", "a pppp pppp yyy",
+                poem("'...'...'...", "a/y", "a", "p-p-p-'p", "y", "y-y-y"));
         found("one bend ahead of two, of a higher number", "ay b",
                 poem("..", "a/b", "'ax", "'b", "ay"));
         found("two bends ahead of three", "a c c a", poem("....", "a/a", "'a", "'b", "c"));
